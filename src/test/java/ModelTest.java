@@ -36,7 +36,6 @@ public final class ModelTest {
         Random random = new Random(7001L + run);
         BothWould real = new BothWould();
         Model model = new Model();
-        StringBuilder told = new StringBuilder();
         List<int[]> plan = new ArrayList<>();
         for (int k = 0; k < CALLS; k++) {
             long v = 0;
@@ -56,7 +55,7 @@ public final class ModelTest {
             try {
                 got = call(real, c, v);
             } catch (RuntimeException e) {
-                System.out.println("run " + run + " call " + k + " " + Arrays.toString(c) + " threw " + e + told);
+                System.out.println("run " + run + " call " + k + " " + Arrays.toString(c) + " threw " + e);
                 return 1;
             }
             String kind = want >= 0 ? "number" : "" + want;
