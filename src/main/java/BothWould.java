@@ -337,8 +337,13 @@ public final class BothWould {
         if (!houses.has(i) || !isEither(what)) {
             return BAD;
         }
+        int truth = worthBySaying(i, houses.bestPlace[i]);
+        // Nothing can be said of a lie that has no truth to stand beside.
+        if (truth == NO_WORTH) {
+            return NONE;
+        }
         int top = NO_WORTH;
-        int said = -1;
+        int said = NONE;
         for (int b = 0; b < houses.persons; b++) {
             int worth = worthBySaying(i, b);
             if (worth > top) {
@@ -346,14 +351,7 @@ public final class BothWould {
                 said = b;
             }
         }
-        if (said < 0) {
-            return NONE;
-        }
-        if (what == 0) {
-            return said;
-        }
-        int truth = worthBySaying(i, houses.bestPlace[i]);
-        return truth == NO_WORTH ? NONE : top - truth;
+        return what == 0 ? said : top - truth;
     }
 
     private int worthBySaying(int i, int b) {

@@ -700,7 +700,7 @@ public final class ModelTest {
                 }
             }
             suitMap.clear();
-            return top == null ? NONE : what == 0 ? said : truth == null ? NONE : top - truth;
+            return truth == null ? NONE : what == 0 ? said : top - truth;
         }
 
         int see(int i, int x, int y, int agreed) {

@@ -549,6 +549,12 @@ public final class PromiseTest {
         due("19: going on takes it", b.goingOn(-1), 4);
         due("19: the shorter one", b.shortest(0), 2);
         due("19: the shorter one", b.shortest(1), 1);
+        // A ROUND leads to 2 0 1, CHANGES from there over 0 2 1 back to the first arrangement, to REST.
+        b = laid("p2,4,0;p2,2,1;p2,0,1;l1,0,58;l0,1,44;");
+        due("19: at rest as laid", b.longest(), 0);
+        due("19: a round leads away", b.round(0), 2);
+        due("19: and changes back", b.longest(), 2);
+        due("19: to the first arrangement", b.goingOn(0), 0);
     }
 
     private static void p20Shortest() {
@@ -713,8 +719,14 @@ public final class PromiseTest {
         due("26: from now, too late", b.lie(1, 1), 0);
         // By the truth the MEEK two change for ever; by 1 he stands between them; by 2 he goes past.
         b = laid("p0,5,0;p0,0,4;p0,0,4;");
-        due("26: there is such b", b.lie(0, 0), 1);
-        due("26: by the truth no rest", b.lie(0, 1), NONE);
+        due("26: by the truth no rest, though by 1", b.lie(0, 0), NONE);
+        due("26: by the truth no rest, though by 1", b.lie(0, 1), NONE);
+        due("26: bad ahead of none", b.lie(0, 2), BAD);
+        due("26: as it was", b.person(0, 0), 0);
+        // The other way round: by the truth he stands between them, and by 0 it never ends.
+        b = laid("p1,5,0;p0,0,4;p0,0,4;");
+        due("26: no rest by 0, by the truth there is", b.lie(0, 0), 1);
+        due("26: no rest by 0, by the truth there is", b.lie(0, 1), 0);
         b = laid(MEEK_TWO);
         due("26: no rest by any", b.lie(0, 0), NONE);
         due("26: no rest by any", b.lie(0, 1), NONE);
