@@ -430,6 +430,17 @@ public final class HousesBoundsTest {
             Bounds.write(b, PERSON + PERSON);
             Bounds.due("what stood there is gone", b.lay(), 2);
             Bounds.due("what stood there is gone", b.count(1), 1);
+            // Nor is what stood there read behind the end of a shorter TEXT.
+            String whole = "p0,10,4;l0,1,99;r1;";
+            for (int k = 0; k <= whole.length(); k++) {
+                b = Bounds.written(whole);
+                Bounds.due("fault of " + whole, b.fault(), NONE);
+                b.wipe();
+                Bounds.write(b, whole.substring(0, k));
+                int begun = k < 8 ? 0 : k < 16 ? 8 : 16;
+                boolean ends = k == 0 || k == 8 || k == 16 || k == 19;
+                Bounds.due("fault of " + whole.substring(0, k) + " behind a wipe", b.fault(), ends ? NONE : begun);
+            }
         });
         Bounds.sentence("3: wipe", "THE TEXT is empty", () -> {
             // All but THE TEXT stays.
@@ -501,6 +512,18 @@ public final class HousesBoundsTest {
             Bounds.due("two", b.lay(), 2);
             b.wipe();
             Bounds.same("lay of two", Bounds.shown(b), Bounds.shown(Bounds.fresh()));
+            // Nor is anything left of what was only asked about, or could not be laid.
+            for (String other : new String[] {six, "p5,20,3;r1;l4,5,99;", "r1;l0,1,99;l1,0,99;", "l0,1,0;r1;x"}) {
+                b = Bounds.written(other);
+                b.fault();
+                b.lay();
+                b.fault();
+                b.wipe();
+                Bounds.write(b, "p1,5,0;p0,5,0;");
+                Bounds.due("two behind " + other, b.lay(), 2);
+                b.wipe();
+                Bounds.same("lay of two behind " + other, Bounds.shown(b), Bounds.shown(Bounds.fresh()));
+            }
             b = Bounds.fresh();
             b.rests(-1);
             Bounds.write(b, six);

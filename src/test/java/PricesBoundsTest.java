@@ -156,7 +156,7 @@ public final class PricesBoundsTest {
                 }
             }
         });
-        Bounds.sentence("LIES", "that by which his true WORTH there is greatest, the lowest: b; how much more that is than if he tells the truth;", () -> {
+        Bounds.sentence("LIES", "Of all b for which it comes to REST that by which his true WORTH there is greatest, the lowest: b;", () -> {
             BothWould b = Bounds.laid("p3,7,3;p1,5,0;p0,6,1;p0,7,0;p3,7,1;p3,2,0;r1;");
             Bounds.due("the last b", b.lie(2, 0), 5);
             Bounds.due("the last b", b.lie(2, 1), 6);
@@ -174,6 +174,14 @@ public final class PricesBoundsTest {
             b = Bounds.laid(NO_REST_BY_A_LIE);
             Bounds.due("that for which it comes to rest", b.lie(0, 0), 1);
             Bounds.due("that for which it comes to rest", b.lie(0, 1), 0);
+        });
+        Bounds.sentence("LIES", "how much more that is than if he tells the truth;", () -> {
+            // 1 tells the truth, 2, and ends beside 0 with 100; by 0 he stays beside 2 with 99 and 7 more.
+            BothWould b = Bounds.laid("p1,3,0;p2,1,0;p0,3,1;l1,2,57;");
+            Bounds.due("6 more", b.lie(1, 1), 6);
+            Bounds.due("0 more", b.lie(0, 1), 0);
+            b.change(1);
+            Bounds.due("0 more when it is too late", b.lie(1, 1), 0);
         });
         Bounds.sentence("LIES", "none (no such b; by the truth it does not come to REST).", () -> {
             Bounds.sizes((meek, n, ring) -> {
@@ -341,6 +349,37 @@ public final class PricesBoundsTest {
             fitsDue("p0,1,0;", 6, "r1;", far, true, 3, 3);
             fitsDue("p0,1,0;", 6, "r1;", new int[] {5, 0}, true, 3, 0);
             fitsDue("p0,1,0;", 2, "r1;", up, true, 1, 1);
+        });
+        Bounds.sentence("SEEN", "PERSON i, asked to go from PLACE x to y", () -> {
+            // From x to y and from y to x are not the same, side by side or not.
+            fitsDue("p0,1,0;", 6, "", new int[] {2, 4}, true, 2, 4);
+            fitsDue("p0,1,0;", 6, "", new int[] {4, 2}, true, 3, 0);
+            fitsDue("p0,1,1;", 6, "", new int[] {2, 4}, true, 3, 3);
+            fitsDue("p0,1,1;", 6, "", new int[] {4, 2}, true, 4, 0);
+            fitsDue("p0,1,0;", 6, "", new int[] {5, 0}, true, 3, 0);
+            fitsDue("p0,1,0;", 6, "", new int[] {4, 5}, true, 1, 5);
+        });
+        Bounds.sentence("SEEN", "agreed or not. FITS: of all b how many fit", () -> {
+            // What fits a yes does not fit a no: together they are all.
+            for (int x = 0; x < 6; x++) {
+                for (int y = 0; y < 6; y++) {
+                    if (x != y) {
+                        BothWould yes = Bounds.laid("p0,5,2;" + "p0,0,0;".repeat(5));
+                        yes.seen(0, x, y, true);
+                        BothWould not = Bounds.laid("p0,5,2;" + "p0,0,0;".repeat(5));
+                        not.seen(0, x, y, false);
+                        Bounds.due("yes and no from " + x + " to " + y, yes.fits(0, 0) + not.fits(0, 0), 6);
+                        yes.seen(0, x, y, false);
+                        Bounds.due("both from " + x + " to " + y, yes.fits(0, 0), 0);
+                    }
+                }
+            }
+        });
+        Bounds.sentence("SEEN", "by his W and KIND; the lowest; none.", () -> {
+            fitsDue("p0,1,0;", 6, "", new int[] {0, 5}, true, 3, 3);
+            fitsDue("p0,1,0;", 6, "", new int[] {4, 5}, true, 1, 5);
+            fitsDue("p0,1,0;", 6, "", new int[] {1, 0}, true, 1, 0);
+            fitsDue("p0,0,0;", 6, "", new int[] {1, 0}, true, 0, NONE);
         });
         Bounds.sentence("SEEN", "all that was SEEN of him", () -> {
             BothWould b = Bounds.laid("p0,1,0;p0,1,0;p0,1,0;");

@@ -12,6 +12,8 @@ public final class RestBoundsTest {
     private static final String CIRCLE_LATER = "p2,5,0;p0,0,4;p0,0,4;";
     // By CHANGE 0 there is REST, 0 standing between the MEEK ones; by CHANGE 1 there is a way without end.
     private static final String END_OR_NONE = "p1,5,0;p0,0,4;p0,0,4;";
+    // At REST as laid; a ROUND leads to 2 0 1, and CHANGES 0 and 1 back to the first of all arrangements.
+    private static final String BACK_TO_THE_FIRST = "p2,4,0;p2,2,1;p2,0,1;l1,0,58;l0,1,44;";
     // Long ways, found by drawing many texts.
     private static final String LONG_GOING_ON = "p4,2,4;p1,1,0;p0,11,0;p3,0,1;p1,1,0;p2,1,1;l3,0,47;l2,5,46;l3,2,10;l2,1,13;"
         + "l1,3,46;l0,5,38;l5,1,54;l2,4,46;l3,0,45;l3,1,64;l3,2,22;r1;";
@@ -82,6 +84,12 @@ public final class RestBoundsTest {
                     Bounds.due("none of " + n, meek.get().rests(p), NONE);
                 }
             });
+            BothWould again = Bounds.laid(Bounds.fools(3, false));
+            Bounds.due("the first of all", again.rests(2), 2);
+            again.wipe();
+            Bounds.write(again, Bounds.MEEK_THREE);
+            again.lay();
+            Bounds.due("none, though there was one in what was laid ahead", again.rests(2), NONE);
             for (String text : PEOPLE) {
                 int[] first = firstRest(text);
                 for (int p = 0; p < people(text); p++) {
@@ -186,6 +194,11 @@ public final class RestBoundsTest {
             longestByHand(Bounds.TWO_WAYS, 2);
             longestByHand(ROUND_THE_END, 1);
             longestByHand(LONG_LONGEST, 36);
+            BothWould b = Bounds.laid(BACK_TO_THE_FIRST);
+            Bounds.due("at rest as laid", b.longest(), 0);
+            b.round(0);
+            Bounds.dueRow("a round", b, "2 0 1");
+            Bounds.due("back to the first of all", b.longest(), 2);
         });
         Bounds.sentence(REST, "none (there is a way without end).", () -> {
             Bounds.sizes((meek, n, ring) -> Bounds.due("longest of " + n, meek.get().longest(), NONE));
@@ -241,6 +254,13 @@ public final class RestBoundsTest {
             Bounds.due("the lowest of two", Bounds.laid("p1,1,0;p0,1,0;p3,1,0;p2,1,0;").shortest(1), 0);
             Bounds.due("the last of a ring", Bounds.laid(ROUND_THE_END).shortest(1), 2);
             Bounds.due("of a ring of two both", Bounds.laid("p1,1,0;p0,1,0;r1;").shortest(1), 0);
+            BothWould b = Bounds.laid(BACK_TO_THE_FIRST);
+            b.round(0);
+            Bounds.due("back to the first of all", b.shortest(0), 2);
+            int first = b.shortest(1);
+            Bounds.due("back to the first of all", b.change(first) >= 0 ? 1 : 0, 1);
+            b.change(b.shortest(1));
+            Bounds.dueRow("back to the first of all", b, "0 1 2");
         });
         Bounds.sentence(REST, "none (no REST can be come to, there is none to do).", () -> {
             Bounds.sizes((meek, n, ring) -> {
@@ -329,6 +349,10 @@ public final class RestBoundsTest {
             Bounds.due("either way of the last", b.comes(3, 1, 1), 2);
             b = Bounds.laid(Bounds.meek(2, true));
             Bounds.due("of a ring of two both", b.comes(0, 1, 1), 0);
+            b = Bounds.laid(Bounds.meek(3, false));
+            b.change(1);
+            Bounds.due("back to the first of all", b.comes(2, 2, 0), 1);
+            Bounds.due("back to the first of all", b.comes(2, 2, 1), 1);
             Bounds.sizes((meek, n, ring) -> {
                 for (int p = 0; p < n; p++) {
                     Bounds.due("he is there", meek.get().comes(p, p, 0), 0);
@@ -383,6 +407,7 @@ public final class RestBoundsTest {
             Bounds.due("the lowest of two", Bounds.laid(either).bars(0, 2), 1);
             Bounds.due("the lowest of two", Bounds.laid(either).bars(2, 0), 1);
             Bounds.due("round the end", Bounds.laid(either).bars(0, 3), 3);
+            Bounds.due("round the end, at the first place", Bounds.laid("p0,0,3;p0,0,3;p0,0,4;r1;").bars(2, 0), 0);
             Bounds.due("two of whom either is too few", Bounds.laid("p0,0,4;p0,0,3;p0,0,3;").bars(0, 2), NONE);
             Bounds.due("he himself bars it", Bounds.laid("p0,0,3;p0,0,4;").bars(0, 1), NONE);
             Bounds.due("he himself, and another one", Bounds.laid(Bounds.fools(2, true)).bars(0, 1), NONE);
@@ -392,6 +417,14 @@ public final class RestBoundsTest {
             Bounds.due("willing", Bounds.laid("p0,0,4;p1,1,1;").bars(0, 1), 1);
             Bounds.due("greedy", Bounds.laid("p0,0,4;p0,9,2;").bars(0, 1), 1);
             Bounds.due("greedy who gains 10", Bounds.laid("p0,0,4;p0,10,2;").bars(0, 1), NONE);
+            // At 1 0 2 both 1 and 0 are where they like it best: 2 could come to PLACE 0 by the last CHANGE.
+            BothWould b = Bounds.laid("p1,5,0;p0,5,0;p0,0,4;r1;");
+            b.change(0);
+            Bounds.due("round the end, at the first place", b.bars(2, 0), 1);
+            // Back to the first of all arrangements.
+            b = Bounds.laid("p0,0,4;p0,5,0;");
+            b.change(0);
+            Bounds.due("who would not go back", b.bars(0, 0), 1);
         });
         Bounds.sentence("22: bars", "BARS. NONE (nobody; or he can come); BAD.", () -> {
             Bounds.sizes((meek, n, ring) ->
@@ -415,6 +448,18 @@ public final class RestBoundsTest {
                         Bounds.due("the first of all", b.best(p), p);
                     }
                 });
+                for (int n = 2; n <= 6; n++) {
+                    // Each wants the PLACE that is his in the last of all arrangements.
+                    StringBuilder text = new StringBuilder();
+                    for (int i = 0; i < n; i++) {
+                        text.append("p" + (n - 1 - i) + ",1,0;");
+                    }
+                    BothWould b = Bounds.laid(text.toString());
+                    Bounds.due("the last of all", b.best(-1), 10000 + 100 * n);
+                    for (int p = 0; p < n; p++) {
+                        Bounds.due("the last of all", b.best(p), n - 1 - p);
+                    }
+                }
                 for (String text : PEOPLE) {
                     bestByHand(text);
                 }
