@@ -125,7 +125,7 @@ public final class HousesBoundsTest {
                 }
             }
         });
-        numbersUpTo("p#,0,0;", 5, "whose BEST PLACE is B (0 to 5)");
+        numbersUpTo("p#,0,0;", 5, "pB,W,K a PERSON whose BEST PLACE is B (0 to 5)");
         numbersUpTo("p0,#,0;", 20, "to whom each step from it costs W (0 to 20)");
         numbersUpTo("p0,0,#;", 4, "of KIND K (0 PLAIN, 1 WILLING, 2 GREEDY, 3 FOOL, 4 MEEK)");
         numbersUpTo("r#;", 1, "rR it is a RING (1) or a ROW (0;");
@@ -548,7 +548,7 @@ public final class HousesBoundsTest {
     }
 
     private static void p6to9Questions() {
-        Bounds.sentence("6: person", "BEST PLACE (what = 0), W (1), KIND (2), the PLACE where he is (3). BAD.", () ->
+        Bounds.sentence("6: person", "Of a PERSON: BEST PLACE (what = 0), W (1), KIND (2), the PLACE where he is (3). BAD.", () ->
             Bounds.sizes((state, n, ring) ->
                 Bounds.between("person", state, (b, v) -> b.person(v[0], v[1]), Bounds.ends(0, n - 1), Bounds.ends(0, 3))));
         Bounds.sentence("7: likes", "By how much a PERSON likes another one, and 50. BAD.", () ->

@@ -1,4 +1,5 @@
 import java.io.IOException;
+import java.lang.reflect.Array;
 import java.lang.reflect.Constructor;
 import java.lang.reflect.Field;
 import java.lang.reflect.Method;
@@ -6,9 +7,14 @@ import java.lang.reflect.Modifier;
 import java.nio.charset.StandardCharsets;
 import java.nio.file.Files;
 import java.nio.file.Path;
+import java.util.ArrayDeque;
+import java.util.ArrayList;
 import java.util.Arrays;
+import java.util.IdentityHashMap;
 import java.util.List;
+import java.util.Map;
 import java.util.Set;
+import java.util.TreeMap;
 import java.util.TreeSet;
 import java.util.regex.Matcher;
 import java.util.regex.Pattern;
@@ -33,7 +39,7 @@ public final class LanguageTest {
         }
     }
 
-    public static void main(String[] args) throws IOException {
+    public static void main(String[] args) throws IOException, IllegalAccessException {
         face();
         insideClasses();
         for (int k = 0; k < 2; k++) {
@@ -42,6 +48,9 @@ public final class LanguageTest {
         String source = Files.readString(SOURCE, StandardCharsets.UTF_8);
         words(source);
         lengths(source);
+        depth(source);
+        made(source);
+        room();
         System.out.println(wrong == 0 ? "the language is kept to" : wrong + " rules are not kept to");
         if (wrong != 0) {
             System.exit(1);
@@ -85,7 +94,9 @@ public final class LanguageTest {
         for (Class<?> c : inside) {
             must(Modifier.isStatic(c.getModifiers()), c + " is static");
             must(!Modifier.isPublic(c.getModifiers()) && !Modifier.isProtected(c.getModifiers()), c + " is not open");
+            must(c.getDeclaredClasses().length == 0, c + " has no classes inside");
         }
+        must(BothWould.class.getResource("BothWould$1.class") == null, "no anonymous or local class");
     }
 
     private static void names(List<Class<?>> classes) {
@@ -129,19 +140,118 @@ public final class LanguageTest {
         }
     }
 
-    private static void lengths(String source) {
-        String[] lines = source.split("\n");
-        int begun = -1;
+    private static final Pattern HEAD = Pattern.compile("^( {4}| {8})(?!(?:if|for|while|switch)\\b)(?:[\\w\\[\\]]+ )*(\\w+)\\(.*\\{$");
+
+    // Each method's name and its lines; methods of one name are taken together.
+    private static Map<String, List<String>> methods(String source) {
+        Map<String, List<String>> bodies = new TreeMap<>();
+        List<String> body = null;
         String indent = "";
-        for (int k = 0; k < lines.length; k++) {
-            Matcher head = Pattern.compile("^( {4}| {8})(?!if|for|while|switch)\\w[^=;]*\\(.*\\{$").matcher(lines[k]);
+        for (String line : source.replaceAll("//[^\n]*", "").split("\n")) {
+            Matcher head = HEAD.matcher(line);
             if (head.find()) {
-                begun = k;
                 indent = head.group(1);
-            } else if (begun >= 0 && lines[k].equals(indent + "}")) {
-                must(k - begun < 60, lines[begun].trim() + " is short");
-                begun = -1;
+                body = bodies.computeIfAbsent(head.group(2), name -> new ArrayList<>());
+                body.add("");
+            } else if (line.equals(indent + "}")) {
+                body = null;
+            } else if (body != null) {
+                body.add(line);
             }
         }
+        return bodies;
+    }
+
+    private static void lengths(String source) {
+        for (Map.Entry<String, List<String>> m : methods(source).entrySet()) {
+            must(m.getValue().size() <= 60, m.getKey() + " is short");
+        }
+    }
+
+    // No method comes to itself again, and at most eight stand open at once.
+    private static void depth(String source) {
+        Map<String, Set<String>> calls = new TreeMap<>();
+        Map<String, List<String>> bodies = methods(source);
+        for (String name : bodies.keySet()) {
+            Set<String> called = calls.computeIfAbsent(name, n -> new TreeSet<>());
+            Matcher m = Pattern.compile("\\b(\\w+)\\(").matcher(String.join("\n", bodies.get(name)));
+            while (m.find()) {
+                if (bodies.containsKey(m.group(1))) {
+                    called.add(m.group(1));
+                }
+            }
+        }
+        for (String s : FACE) {
+            must(bodies.containsKey(s.substring(4, s.indexOf('('))), "found in the source: " + s);
+        }
+        for (String name : bodies.keySet()) {
+            int deep = deep(name, calls, 0);
+            must(deep <= 8, name + " goes at most eight deep: " + deep);
+        }
+    }
+
+    private static int deep(String name, Map<String, Set<String>> calls, int open) {
+        if (open > 50) {
+            return open;
+        }
+        int most = 0;
+        for (String next : calls.get(name)) {
+            most = Math.max(most, deep(next, calls, open + 1));
+        }
+        return most + 1;
+    }
+
+    // All rows are made with the object: a call makes nothing, so that no run of calls fills the room.
+    private static void made(String source) {
+        Set<String> constructors = new TreeSet<>(List.of("BothWould"));
+        for (Class<?> c : BothWould.class.getDeclaredClasses()) {
+            constructors.add(c.getSimpleName());
+        }
+        for (Map.Entry<String, List<String>> m : methods(source).entrySet()) {
+            if (!constructors.contains(m.getKey())) {
+                String body = String.join("\n", m.getValue());
+                must(!Pattern.compile("\\bnew\\b|\\bclone\\b|\\bcopyOf|\"").matcher(body).find(), m.getKey() + " makes nothing");
+            }
+        }
+    }
+
+    // 600,000 objects and arrays with 7.3 million fields and elements hold 500 of these, and more.
+    private static void room() throws IllegalAccessException {
+        BothWould b = new BothWould();
+        int[] before = measure(b);
+        must(before[0] <= 1000 && before[1] <= 14000, "an object is small: " + before[0] + " objects, " + before[1] + " elements");
+        b.write(8, 0x70302c31302c343bL);
+        b.write(8, 0x70302c31302c343bL);
+        b.lay();
+        b.longest();
+        b.mean(0, 6, 0);
+        b.lie(0, 0);
+        must(Arrays.equals(before, measure(b)), "it stays as large as it was made");
+    }
+
+    private static int[] measure(Object root) throws IllegalAccessException {
+        Map<Object, Boolean> known = new IdentityHashMap<>();
+        ArrayDeque<Object> open = new ArrayDeque<>(List.of(root));
+        known.put(root, true);
+        int elements = 0;
+        while (!open.isEmpty()) {
+            Object o = open.poll();
+            if (o.getClass().isArray()) {
+                elements += Array.getLength(o);
+                continue;
+            }
+            for (Field f : o.getClass().getDeclaredFields()) {
+                if (Modifier.isStatic(f.getModifiers())) {
+                    continue;
+                }
+                elements++;
+                f.setAccessible(true);
+                Object part = f.getType().isPrimitive() ? null : f.get(o);
+                if (part != null && known.put(part, true) == null) {
+                    open.add(part);
+                }
+            }
+        }
+        return new int[] {known.size(), elements};
     }
 }

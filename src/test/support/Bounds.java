@@ -49,7 +49,7 @@ final class Bounds {
         test.run();
     }
 
-    private static String document() {
+    static String document() {
         if (document == null) {
             try {
                 document = Files.readString(DOCUMENT, StandardCharsets.UTF_8);
@@ -60,7 +60,7 @@ final class Bounds {
         return document;
     }
 
-    private static String plain(String text) {
+    static String plain(String text) {
         return text.replaceAll("\\s+", " ").trim();
     }
 
